@@ -14,6 +14,7 @@ public final class SheetsTest {
         writing();
         counting();
         digestOfNone();
+        digestOfSome();
         Check.end("SheetsTest");
     }
 
@@ -152,6 +153,7 @@ public final class SheetsTest {
         Check.due("31: t", x.copy(0, 0, -1, 0, 0), BAD);
         Check.due("31: no FINDING", x.count(8), 0);
         Check.due("31: both are lost", x.copy(0, 0, 1, 0, 0), NULL);
+        Check.due("31: FINDING", x.count(8), 1);
         x.sheet(0, 0, 3);
         Check.due("31: t is lost", x.copy(0, 0, 1, 0, 9), NULL);
         Check.due("31: s is lost", x.copy(1, 0, 0, 0, 9), NULL);
@@ -240,5 +242,44 @@ public final class SheetsTest {
         x.sheet(1, 0, 4);
         Check.due("34: SHEETS and FINDINGS are not told", x.digest(), h);
         Check.due("34: it changes nothing", x.count(8), 1);
+    }
+
+    private static long mix(long h, int... told) {
+        for (int v : told) {
+            h = 31 * h + v;
+        }
+        return h;
+    }
+
+    private static void digestOfSome() {
+        String[] texts = {"55", "00;44", "12;80;37;55;91;26", "00;01;02;03;04;05;06;07;08;09", "12;80;"};
+        for (String text : texts) {
+            SpiderLoom x = Check.loom(text);
+            x.set(0, 30);
+            x.set(1, 1);
+            x.hide(2, 1);
+            x.seen(0, 1, 1);
+            Check.due("34: of " + text, x.digest(), dueDigest(x));
+            x.hide(0, 1);
+            Check.due("34: without 0 of " + text, x.digest(), dueDigest(x));
+        }
+    }
+
+    private static long dueDigest(SpiderLoom x) {
+        long h = 17;
+        for (int what = 0; what <= 7; what++) {
+            h = mix(h, x.count(what));
+        }
+        h = mix(h, x.fault());
+        for (int p = 0; p < x.count(0); p++) {
+            for (int law = 0; law <= 3; law++) {
+                h = mix(h, x.length(p, law, 0), x.length(p, law, 1), x.length(p, law, 2), x.crosses(p, law),
+                    x.turned(p, law), x.web(p, law, 1), x.hangs(p, law, 0), x.pieces(p, law, 1),
+                    x.flies(p, law, 7, 9));
+            }
+        }
+        h = mix(h, x.begin(0), x.begin(1), x.begin(2), x.begin(3), x.last(0, 0, 1, 0), x.last(0, 0, 1, 1));
+        h = mix(h, x.two(0, 0, 1, 1, 0), x.two(0, 0, 1, 1, 1), x.two(0, 0, 1, 1, 2), x.more(0, 0, 5, 5));
+        return mix(h, x.fits(), x.tells());
     }
 }
