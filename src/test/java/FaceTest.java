@@ -11,17 +11,6 @@ import java.util.regex.Pattern;
 
 /** The public face is the document's and no more; the source keeps clear of what LANGUAGE.md rules out. */
 public final class FaceTest {
-    private static final String[] FACE = {
-        "int type(int)", "int wipe()", "int undo()", "int fault()", "int peg(int, int)", "int hide(int, int)",
-        "int set(int, int)", "int read(int)", "int far(int, int)", "int web(int, int, int)",
-        "int length(int, int, int)", "int crosses(int, int)", "int hangs(int, int, int)",
-        "int pieces(int, int, int)", "int turned(int, int)", "int more(int, int, int, int)", "int begin(int)",
-        "int last(int, int, int, int)", "int two(int, int, int, int, int)", "int seen(int, int, int)",
-        "int forget()", "int fits()", "int tells()", "int flies(int, int, int, int)", "int dew(int, int, int)",
-        "int sheet(int, int, int)", "int lose(int)", "int put(int, int, int, int)", "int get(int, int, int)",
-        "int copy(int, int, int, int, int)", "int write(int, int, int)", "int count(int)", "long digest()"
-    };
-
     private static final String[] RULED_OUT = {
         "throw", "throws", "try", "catch", "finally", "synchronized", "assert", "import", "package", "protected",
         "var", "record", "Exact", "System.out", "hashCode", "Object"
@@ -49,7 +38,7 @@ public final class FaceTest {
                 Check.due(m.getName() + " static", m.getModifiers() & Modifier.STATIC, 0);
             }
         }
-        Set<String> want = new TreeSet<>(Set.of(FACE));
+        Set<String> want = new TreeSet<>(Set.of(Face.CALLS));
         Check.holds("the face is the document's: " + got, got.equals(want));
         for (Method m : c.getDeclaredMethods()) {
             Check.holds(m.getName() + " private beside a public one", isOpen(m) || !names.contains(m.getName()));
